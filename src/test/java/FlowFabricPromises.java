@@ -315,6 +315,23 @@ public final class FlowFabricPromises {
         due(9, "publish() without packets of the active table", x.publish(), 2);
     }
 
+    private static void publishFreesTheFirstTable() {
+        FlowFabric x = ring();
+        x.send(2, 0);
+        for (int n = 0; n < 15; n++) {
+            x.tick();
+        }
+        x.publish();
+        x.send(2, 1);
+        x.publish();
+        x.send(2, 2);
+        due(9, "publish() ahead of the first packet's end", x.publish(), BUSY);
+        due(9, "tick()", x.tick(), 2);
+        x.drop(0, 0);
+        due(9, "publish() after the first packet's end", x.publish(), 3);
+        due(9, "tick(), by the tables of the sending", x.tick(), 2);
+    }
+
     private static void publishIsACopy() {
         FlowFabric x = new FlowFabric();
         x.add(3, ANY, 1, SAME);
@@ -630,6 +647,9 @@ public final class FlowFabricPromises {
         due(18, "nextArriving(8, 8, MAX)", x.nextArriving(8, 8, Integer.MAX_VALUE), NONE);
         due(18, "nextArriving(8, 9, -1)", x.nextArriving(8, 9, -1), 0);
         due(18, "nextArriving(8, 9, 0)", x.nextArriving(8, 9, 0), NONE);
+        x.add(3, ANY, 0, SAME);
+        due(18, "nextArriving(32, 12, 62), every header arrives", x.nextArriving(32, 12, 62), 63);
+        due(18, "nextArriving(32, 12, 63), every header arrives", x.nextArriving(32, 12, 63), NONE);
         x.drop(2, 0);
         due(18, "nextArriving(28, 8, -1)", x.nextArriving(28, 8, -1), 63);
         due(18, "nextArriving(39, 19, -1)", x.nextArriving(39, 19, -1), NONE);
@@ -798,6 +818,8 @@ public final class FlowFabricPromises {
         x.link(8, 9);
         due(23, "needless(2, 1), linked", x.needless(2, 1), 1);
         due(23, "needless(2, 0), linked", x.needless(2, 0), 0);
+        x.add(4, ANY, DROP, SAME);
+        due(23, "needless(4, 0), the last switch", x.needless(4, 0), 1);
         due(23, "rules(2), the rule is still there", x.rules(2), 3);
         due(23, "needless(2, 3)", x.needless(2, 3), BAD);
         due(23, "needless(5, 0)", x.needless(5, 0), BAD);
@@ -838,6 +860,7 @@ public final class FlowFabricPromises {
         due(24, "ending(20, 0)", x.ending(20, 0), 32);
         due(24, "ending(0, 0)", x.ending(0, 0), 0);
         due(24, "visiting(20, 1)", x.visiting(20, 1), 64);
+        due(24, "visiting(0, 1)", x.visiting(0, 1), 64);
         x.unlink(1);
         due(24, "end(0, 0), links of now", x.end(0, 0), 101);
         due(24, "end(20, 1), links of now", x.end(20, 1), 101);
@@ -863,6 +886,7 @@ public final class FlowFabricPromises {
         rules();
         publish();
         publishFreesTheMiddleTable();
+        publishFreesTheFirstTable();
         publishIsACopy();
         revert();
         send();
