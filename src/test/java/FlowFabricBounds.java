@@ -431,6 +431,13 @@ public final class FlowFabricBounds {
         Runs.due(Runs.then(States.countdown(3), Runs.times(8, "send(2, 31)")), "tick() 8", "header(0) 30",
                 "header(1) 30", "header(2) 30", "header(3) 30", "header(4) 30", "header(5) 30", "header(6) 30",
                 "header(7) 30");
+        // A lost, a delivered and a dropped packet that would go on if they were treated again.
+        Runs.due(Runs.then(Runs.then(States.countdown(3), "send(2, 16)"), Runs.times(16, "tick()")), "state(0) 4",
+                "tick() 0", "state(0) 4", "where(0) 1", "header(0) 0");
+        Runs.due(Runs.run(Runs.rule(0, 1, 0, 1, 1, 1), Runs.rule(0, 1, 1, 2, 1, 0), "publish()"), "send(3, 0) 0",
+                "tick() 0", "state(0) 2", "where(0) 1", "header(0) 1", "tick() 0", "where(0) 1", "header(0) 1");
+        Runs.due(States.NEW, "send(3, 0) 0", "tick() 0", "state(0) 3", Runs.rule(0, 0, 0, 1, 1, 1) + " 0",
+                "publish() 1", "tick() 0", "state(0) 3", "where(0) 3", "header(0) 0");
         // With none in flight nothing is treated: those that have ended stay as they are.
         Runs.changesNothing(States.NEW, "tick()", 0);
         Runs.changesNothing(Runs.then(States.TOWN, Runs.times(13, "tick()")), "tick()", 0);
@@ -590,6 +597,9 @@ public final class FlowFabricBounds {
         for (int[] a : all) {
             Runs.changesNothing(States.TOWN, "nextArriving(12, 14, " + a[0] + ")", a[1]);
         }
+        for (int to = 0; to < 20; to++) {
+            Runs.due(States.TOWN, "nextArriving(12, " + to + ", " + Runs.LEAST + ")", to == 14 ? 0 : Runs.NONE);
+        }
         // At place 18 arrive the headers that 4 divides, at place 15 those from 32 on.
         int[][] some = {{Runs.LEAST, 0}, {-1, 0}, {0, 4}, {3, 4}, {4, 8}, {59, 60}, {60, Runs.NONE}};
         for (int[] a : some) {
@@ -652,9 +662,37 @@ public final class FlowFabricBounds {
             List<String> run = Runs.run("link(0, " + (16 + port) + ")", Runs.rule(0, 63, 63, 0, 0, 0));
             Runs.due(run, "visiting(22, 4) 1", "visiting(2, 4) 0");
         }
-        // A place of delivery is not one at which it comes in.
+        visitingByHeader();
+        // Of those that are delivered at once, none comes in at another switch.
         Runs.due(Runs.run("link(1, 4)", Runs.rule(0, 0, 0, 1, 0, 0), Runs.rule(1, 0, 0, 1, 0, 0)),
                 "visiting(20, 1) 64", "unlink(1) 4", "visiting(20, 1) 0");
+        for (int a = 0; a < 20; a++) {
+            for (int s = 0; s < 5; s++) {
+                Runs.due(Runs.run(Runs.rule(a / 4, 0, 0, 5, 0, 0), "publish()"), "visiting(" + a + ", " + s + ")",
+                        a / 4 == s ? 64 : 0);
+            }
+        }
+    }
+
+    /** The headers go up from switch to switch, out at the last port and in at the first, and fewer at each. */
+    private static void visitingByHeader() {
+        List<String> run = new ArrayList<>();
+        for (int s = 0; s < 4; s++) {
+            run.add("link(" + (4 * s + 3) + ", " + (4 * s + 4) + ")");
+            // Only the headers with bit s go on, and bit s + 1 is turned into its opposite.
+            run.add(Runs.rule(s, 3 << s, 3 << s, 3, 2 << s, 0));
+            run.add(Runs.rule(s, 3 << s, 1 << s, 3, 2 << s, 2 << s));
+            run.add(Runs.rule(s, 0, 0, 1, 0, 0));
+        }
+        run.add("publish()");
+        for (int from : new int[] {2, 22}) {
+            for (int s = 0; s < 5; s++) {
+                Runs.due(run, "visiting(" + from + ", " + s + ")", 64 >> s);
+            }
+        }
+        for (int s = 0; s < 5; s++) {
+            Runs.due(run, "visiting(12, " + s + ")", s < 3 ? 0 : s == 3 ? 64 : 32);
+        }
     }
 
     private static void promise21() {

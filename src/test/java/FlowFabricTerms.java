@@ -300,6 +300,15 @@ public final class FlowFabricTerms {
         // Two packets of one table keep one table.
         Runs.due(Runs.then(States.ring(), "send(2, 0)", "send(2, 0)", "publish()", "send(2, 0)", "send(2, 0)"),
                 "publish() 3", "send(2, 0) 4", "send(2, 0) 5", "publish() -4");
+        // One packet is enough to keep a table, whatever its number.
+        for (int k = 0; k < 8; k++) {
+            List<String> run = new ArrayList<>(List.of("link(0, 1)", Runs.rule(0, 1, 1, 0, 0, 0), "publish()"));
+            for (int n = 0; n < 8; n++) {
+                run.add("send(2, " + (n == k ? 1 : 0) + ")");
+            }
+            Runs.due(run, "tick() 1", "state(" + k + ") 1", "drop(0, 0) 0", "publish() 2", "publish() 2", "tick() 1",
+                    "where(" + k + ") 1", "end(2, 1) 1");
+        }
         // The first, the second and the third table, each set free by the end of its packets.
         for (int free = 0; free < 3; free++) {
             List<String> run = new ArrayList<>(List.of("link(0, 1)", Runs.rule(0, 1, 1, 0, 0, 0), "publish()"));
