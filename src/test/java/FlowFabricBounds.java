@@ -693,6 +693,11 @@ public final class FlowFabricBounds {
         for (int s = 0; s < 5; s++) {
             Runs.due(run, "visiting(12, " + s + ")", s < 3 ? 0 : s == 3 ? 64 : 32);
         }
+        // The header that the first switch makes is the one, of all 64, that the second sends on.
+        for (int h : new int[] {0, 5, 62, 63}) {
+            Runs.due(Runs.run("link(3, 9)", "link(11, 18)", Runs.rule(0, 0, 0, 3, 63, h),
+                    Runs.rule(2, 63, h, 3, 0, 0)), "visiting(20, 2) 64", "visiting(20, 4) 64", "visiting(28, 4) 1");
+        }
     }
 
     private static void promise21() {
